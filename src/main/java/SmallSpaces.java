@@ -364,9 +364,9 @@ public final class SmallSpaces {
     }
 
     private int timesTillAgain(Space start) {
-        // Where a space comes again, the map turns round what it goes through, and the powers
-        // of such a map differ and are sums of multiples of the first n of them: there are
-        // fewer than there are vectors, so no longer way need be gone.
+        // A space that comes again lies where the map can be undone. There each power of the map
+        // is a sum of multiples of its first n, so the powers come again before as many steps
+        // as there are vectors: going on to the document's bound would find no more.
         int most = Math.min(ROUND_STEPS, frame.vectors);
         other.copyFrom(start);
         for (int step = 1; step <= most; step++) {
